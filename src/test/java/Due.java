@@ -18,6 +18,14 @@ final class Due {
         is(what, got ? 1 : 0, 1);
     }
 
+    static void same(String what, String got, String want) {
+        looked++;
+        if (!got.equals(want)) {
+            wrong++;
+            System.out.println(what + ": told is" + got + "\nand due is" + want);
+        }
+    }
+
     /** To be called last: the exit code is 1 if an answer was wrong. */
     static void end(String name) {
         System.out.println(name + ": " + looked + " answers looked at, " + wrong + " wrong");
