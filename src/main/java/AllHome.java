@@ -624,13 +624,22 @@ public final class AllHome {
             return DONE;
         }
 
+        /** 'counter' is the cell that says how many are on the way: WORDS or NOTES. */
+        private static boolean isOnTheWay(int[] cells, int counter, int i) {
+            return i >= 0 && i < cells[counter] && i < ON_THE_WAY;
+        }
+
         private int comeWord(int[] cells, int i) {
-            if (i < 0 || i >= cells[WORDS]) {
+            if (!isOnTheWay(cells, WORDS, i)) {
                 return STATE;
             }
             int from = cells[FROM + i];
             int to = cells[TO + i];
             int units = cells[WORD_UNITS + i];
+            // Only words to huts that there are get on the way; looked at again, as it is an index from here on.
+            if (!huts.has(to)) {
+                return STATE;
+            }
             takeAwayWord(cells, i);
             if (cells[AWAKE + to] == 0) {
                 cells[AWAKE + to] = 1;
@@ -657,7 +666,7 @@ public final class AllHome {
         }
 
         private static int lose(int[] cells, int i) {
-            if (i < 0 || i >= cells[WORDS]) {
+            if (!isOnTheWay(cells, WORDS, i)) {
                 return STATE;
             }
             takeAwayWord(cells, i);
@@ -680,13 +689,13 @@ public final class AllHome {
         }
 
         private int comeNote(int[] cells, int i) {
-            if (i < 0 || i >= cells[NOTES]) {
+            if (!isOnTheWay(cells, NOTES, i)) {
                 return STATE;
             }
             int to = cells[NOTE_TO + i];
             int first = cells[NOTE_FIRST + i];
             int second = cells[NOTE_SECOND + i];
-            if (family == STONE && cells[AWAKE + to] == 1) {
+            if (!huts.has(to) || (family == STONE && cells[AWAKE + to] == 1)) {
                 return STATE;
             }
             cells[NOTES]--;
@@ -1017,8 +1026,9 @@ public final class AllHome {
         private boolean spreadCanSay() {
             boolean more = false;
             for (int s = size - 1; s >= 0; s--) {
-                for (int k = 0; k < nexts[s] && !canSay[s]; k++) {
-                    if (canSay[next[s][k]]) {
+                for (int k = 0; k < nexts[s] && k < MOST_NEXT && !canSay[s]; k++) {
+                    int t = next[s][k];
+                    if (t >= 0 && t < size && canSay[t]) {
                         canSay[s] = true;
                         more = true;
                     }
@@ -1089,7 +1099,7 @@ public final class AllHome {
                 at = isKind(at) ? ABOVE[at] : NONE;
             }
             int body = bodyOf(at, act);
-            if (body == 0 || level > DEEPEST) {
+            if (body == 0 || !isKind(at) || level > DEEPEST) {
                 return 0;
             }
             begun(body);

@@ -1,10 +1,15 @@
 import java.io.IOException;
+import java.lang.reflect.Field;
+import java.lang.reflect.Method;
+import java.lang.reflect.Modifier;
 import java.nio.file.Files;
 import java.nio.file.Path;
+import java.util.HashSet;
+import java.util.Set;
 import java.util.regex.Matcher;
 import java.util.regex.Pattern;
 
-/** The rules of LANGUAGE.md that can be seen in the text of the class. */
+/** The rules of LANGUAGE.md that can be seen in the text of the class, or in what it was compiled to. */
 public final class LanguageTest {
     private static final String[] RULED_OUT = {
         "\\b(throw|throws|try|catch|synchronized|assert|package|volatile|transient|native|strictfp|protected)\\b",
@@ -45,7 +50,38 @@ public final class LanguageTest {
         Due.isTrue("methods have some sixty lines at most: " + longest, longest <= 60);
     }
 
+    private static Set<String> publicNames() {
+        Set<String> names = new HashSet<>();
+        for (Method method : AllHome.class.getDeclaredMethods()) {
+            if (Modifier.isPublic(method.getModifiers())) {
+                names.add(method.getName());
+            }
+        }
+        return names;
+    }
+
+    private static void compiled(Class<?> made, Set<String> publicNames) {
+        for (Method method : made.getDeclaredMethods()) {
+            boolean clash = Modifier.isPrivate(method.getModifiers()) && publicNames.contains(method.getName());
+            Due.isTrue("no private method bears a public name: " + method, !clash);
+        }
+        int fields = 0;
+        for (Field field : made.getDeclaredFields()) {
+            boolean isStatic = Modifier.isStatic(field.getModifiers());
+            Due.isTrue("a static field is final: " + field, !isStatic || Modifier.isFinal(field.getModifiers()));
+            fields += isStatic ? 0 : 1;
+        }
+        Due.isTrue("some twenty fields at most: " + made + " has " + fields, fields <= 20);
+        for (Class<?> inside : made.getDeclaredClasses()) {
+            int kind = inside.getModifiers();
+            Due.isTrue("static: " + inside, Modifier.isStatic(kind));
+            Due.isTrue("not for others: " + inside, !Modifier.isPublic(kind) && !Modifier.isProtected(kind));
+            compiled(inside, publicNames);
+        }
+    }
+
     public static void main(String[] args) throws IOException {
+        compiled(AllHome.class, publicNames());
         String text = Files.readString(Path.of("src/main/java/AllHome.java"));
         String code = code(text);
         for (String pattern : RULED_OUT) {
